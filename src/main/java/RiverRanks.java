@@ -21,6 +21,7 @@ public final class RiverRanks {
     private static final int MOST_UNDONE = 20;
     private static final int MOST_TIMES = 40;
     private static final int MOST_WAYS = 1000000000;
+    private static final int SEED_BITS = 0x7fffffff;
 
     private static final int WAYS_OF_STEMS = 3;
     private static final int BY_FLOW = 0;
@@ -668,7 +669,7 @@ public final class RiverRanks {
     }
 
     private int draw(int of) {
-        chanceSeed = 1103515245 * chanceSeed + 12345 & Integer.MAX_VALUE;
+        chanceSeed = 1103515245 * chanceSeed + 12345 & SEED_BITS;
         return of > 0 ? chanceSeed / 64 % of : 0;
     }
 
@@ -1676,12 +1677,18 @@ public final class RiverRanks {
 
     /** Reads a net's text; keeps the first fault. */
     private static final class Reader {
-        private static final String PLACES = "places";
-        private static final String REACH = "reach";
-        private static final String TO = "to";
-        private static final String LONG = "long";
-        private static final String YIELDS = "yields";
-        private static final String CALLED = "called";
+        // Words are held as numbers, five bits a letter, the first one lowest.
+        private static final int PLACES = 'p' & 31 | ('l' & 31) << 5 | ('a' & 31) << 10
+            | ('c' & 31) << 15 | ('e' & 31) << 20 | ('s' & 31) << 25;
+        private static final int REACH = 'r' & 31 | ('e' & 31) << 5 | ('a' & 31) << 10
+            | ('c' & 31) << 15 | ('h' & 31) << 20;
+        private static final int TO = 't' & 31 | ('o' & 31) << 5;
+        private static final int LONG = 'l' & 31 | ('o' & 31) << 5 | ('n' & 31) << 10
+            | ('g' & 31) << 15;
+        private static final int YIELDS = 'y' & 31 | ('i' & 31) << 5 | ('e' & 31) << 10
+            | ('l' & 31) << 15 | ('d' & 31) << 20 | ('s' & 31) << 25;
+        private static final int CALLED = 'c' & 31 | ('a' & 31) << 5 | ('l' & 31) << 10
+            | ('l' & 31) << 15 | ('e' & 31) << 20 | ('d' & 31) << 25;
 
         final Net draft = new Net();
         final int[] placeNames = new int[MOST_PLACES];
@@ -1720,15 +1727,15 @@ public final class RiverRanks {
         }
 
         private boolean readPlaces() {
-            if (!takeWord(PLACES)) {
-                return fail(FAULT_TEXT, at);
+            if (!wantWord(PLACES)) {
+                return false;
             }
             for (int i = 0; i <= MOST_PLACES; i++) {
                 if (!readNewPlace()) {
                     return false;
                 }
                 if (!takeSign(',')) {
-                    return takeSign(';') || fail(FAULT_TEXT, at);
+                    return wantEnd();
                 }
             }
             return false;
@@ -1756,47 +1763,31 @@ public final class RiverRanks {
 
         private boolean readReach() {
             int start = at;
-            if (!takeWord(REACH)) {
-                return fail(FAULT_TEXT, at);
+            if (!wantWord(REACH)) {
+                return false;
             }
-            if (draft.reaches == MOST_REACHES) {
+            if (draft.reaches >= MOST_REACHES) {
                 return fail(FAULT_MANY, start);
             }
             int head = readOldPlace(NONE);
-            if (head == NONE) {
+            if (head == NONE || !wantWord(TO)) {
                 return false;
-            }
-            if (!takeWord(TO)) {
-                return fail(FAULT_TEXT, at);
             }
             int foot = readOldPlace(head);
-            if (foot == NONE) {
+            if (foot == NONE || !wantWord(LONG)) {
                 return false;
             }
-            if (!takeWord(LONG)) {
-                return fail(FAULT_TEXT, at);
-            }
             int length = readNumber(1);
-            return length != NONE && readRest(head, foot, length);
-        }
-
-        private boolean readRest(int head, int foot, int length) {
-            int gift = 0;
-            if (takeWord(YIELDS)) {
-                gift = readNumber(0);
-                if (gift == NONE) {
-                    return false;
-                }
+            if (length == NONE) {
+                return false;
             }
-            int river = NONE;
-            if (takeWord(CALLED)) {
-                river = readRiver();
-                if (river == NONE) {
-                    return false;
-                }
+            int gift = takeWord(YIELDS) ? readNumber(0) : 0;
+            if (gift == NONE) {
+                return false;
             }
-            if (!takeSign(';')) {
-                return fail(FAULT_TEXT, at);
+            int river = takeWord(CALLED) ? readRiver() : NONE;
+            if (fault != 0 || !wantEnd()) {
+                return false;
             }
             draft.lay(head, foot, length, gift, river);
             return true;
@@ -1833,7 +1824,7 @@ public final class RiverRanks {
             if (river != NONE) {
                 return river;
             }
-            if (rivers == MOST_RIVERS) {
+            if (rivers >= MOST_RIVERS) {
                 fail(FAULT_MANY, from);
                 return NONE;
             }
@@ -1842,27 +1833,24 @@ public final class RiverRanks {
             return rivers - 1;
         }
 
-        /** The letters of a name in one number, the first one lowest. */
         private int readName() {
             skipBlanks();
             int stop = wordEnd();
-            if (stop == at || isOwnWord(stop)) {
-                fail(FAULT_TEXT, at);
-                return NONE;
-            }
             if (stop - at > MOST_LETTERS) {
                 fail(FAULT_TEXT, at + MOST_LETTERS);
                 return NONE;
             }
-            int name = 0;
-            for (int k = 0; k < stop - at; k++) {
-                name |= text.at(at + k) - 'a' + 1 << 5 * k;
+            int name = wordTo(stop);
+            if (name == 0 || isOwnWord(name)) {
+                fail(FAULT_TEXT, at);
+                return NONE;
             }
             at = stop;
             return name;
         }
 
         private int readNumber(int least) {
+            // A digit right behind a word: a blank is missing.
             if (isDigit(text.at(at))) {
                 fail(FAULT_TEXT, at);
                 return NONE;
@@ -1889,14 +1877,18 @@ public final class RiverRanks {
             return number;
         }
 
-        private boolean takeWord(String word) {
+        private boolean takeWord(int word) {
             skipBlanks();
             int stop = wordEnd();
-            if (!isWord(stop, word)) {
+            if (wordTo(stop) != word) {
                 return false;
             }
             at = stop;
             return true;
+        }
+
+        private boolean wantWord(int word) {
+            return takeWord(word) || fail(FAULT_TEXT, at);
         }
 
         private boolean takeSign(char sign) {
@@ -1908,21 +1900,13 @@ public final class RiverRanks {
             return true;
         }
 
-        private boolean isOwnWord(int stop) {
-            return isWord(stop, PLACES) || isWord(stop, REACH) || isWord(stop, TO)
-                || isWord(stop, LONG) || isWord(stop, YIELDS) || isWord(stop, CALLED);
+        private boolean wantEnd() {
+            return takeSign(';') || fail(FAULT_TEXT, at);
         }
 
-        private boolean isWord(int stop, String word) {
-            if (stop - at != word.length()) {
-                return false;
-            }
-            for (int k = 0; k < word.length(); k++) {
-                if (text.at(at + k) != word.charAt(k)) {
-                    return false;
-                }
-            }
-            return true;
+        private static boolean isOwnWord(int word) {
+            return word == PLACES || word == REACH || word == TO || word == LONG || word == YIELDS
+                || word == CALLED;
         }
 
         private int wordEnd() {
@@ -1931,6 +1915,18 @@ public final class RiverRanks {
                 stop++;
             }
             return stop;
+        }
+
+        /** The letters from here on as a number; NONE when they are more than a word has. */
+        private int wordTo(int stop) {
+            if (stop - at > MOST_LETTERS) {
+                return NONE;
+            }
+            int word = 0;
+            for (int k = 0; k < stop - at; k++) {
+                word |= (text.at(at + k) & 31) << 5 * k;
+            }
+            return word;
         }
 
         private void skipBlanks() {
