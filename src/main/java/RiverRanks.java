@@ -1833,8 +1833,8 @@ public final class RiverRanks {
             return rivers - 1;
         }
 
+        /** Begins where blanks are skipped already. */
         private int readName() {
-            skipBlanks();
             int stop = wordEnd();
             if (stop - at > MOST_LETTERS) {
                 fail(FAULT_TEXT, at + MOST_LETTERS);

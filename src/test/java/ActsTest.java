@@ -10,6 +10,7 @@ final class ActsTest {
         gives();
         calls();
         chances();
+        answersOfNow();
         undoes();
         images();
         wrongImages();
@@ -140,6 +141,36 @@ final class ActsTest {
         DUE.due("rivers", x.has(2), 2);
         DUE.due("undo", x.undo(), true);
         DUE.due("river", x.reach(0, 4), 0);
+    }
+
+    /** Behind chances and images all answers are those of the net of now. */
+    private static void answersOfNow() {
+        RiverRanks x = Due.rivers("abcd a>b8+1 b>c9 c>d5");
+        int seed = 0;
+        for (int tried = 1; tried < 100000 && seed == 0; tried++) {
+            Draws draws = new Draws(tried);
+            if (draws.of(4) == 1 && draws.of(3) == 0 && draws.of(100) == 40) {
+                seed = tried;
+            }
+        }
+        DUE.due("there is such a seed", seed > 0, true);
+        x.seed(seed);
+        DUE.due("chance", x.chance(1), 3);
+        DUE.due("yield", x.reach(0, 3), 40);
+        DUE.due("flow", x.has(8), 40);
+        for (int kind = 0; kind < 4; kind++) {
+            DUE.due("changed", x.changed(kind), 0);
+        }
+        DUE.due("undo", x.undo(), true);
+        DUE.due("flow", x.has(8), 1);
+        int[] other = {3, 2, 0, 2, 5, 7, 255, 1, 2, 5, 6, 255, 0};
+        other[12] = check(other);
+        Due.tape(x, other);
+        DUE.due("on", x.on(), true);
+        DUE.due("flow", x.has(8), 13);
+        DUE.due("sources", x.has(3), 2);
+        DUE.due("up", x.beyond(2, 0), Due.bits(0, 1));
+        DUE.due("stems", x.stems(0, 0), 2);
     }
 
     /** The draws of the document, in numbers that do not wrap. */

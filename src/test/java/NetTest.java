@@ -19,6 +19,10 @@ final class NetTest {
         }
         DUE.due("has 10", x.has(10), -1);
         DUE.due("has -1", x.has(-1), -1);
+        DUE.due("source", x.place(0, 2), 1);
+        DUE.due("source", x.place(2, 2), 0);
+        DUE.due("mouth", x.place(4, 3), 1);
+        DUE.due("mouth", x.place(2, 3), 0);
         // A place that no reach touches is neither a source nor a mouth.
         DUE.due("source", x.place(5, 2), 0);
         DUE.due("mouth", x.place(5, 3), 0);

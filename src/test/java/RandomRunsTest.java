@@ -233,6 +233,18 @@ final class RandomRunsTest {
             }
             DUE.due(what + " acts", x.has(6), ahead.size());
         }
+        Slow behind = Slow.of(x);
+        if (behind.reaches.size() <= 22) {
+            compare("behind acts", x, behind, random);
+        }
+        x.seed(random.nextInt(1 << 30));
+        x.chance(1 + random.nextInt(12));
+        behind = Slow.of(x);
+        if (behind.reaches.size() <= 22) {
+            compare("behind chances", x, behind, random);
+        }
+        x.undo();
+        DUE.due("undone", x.has(8), Slow.of(x).atMouths(Slow.of(x).where(false)));
     }
 
     /** Whether the act is due not to be refused; its answer is compared here. */

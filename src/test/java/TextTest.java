@@ -13,6 +13,7 @@ final class TextTest {
         tooMany();
         faultsStay();
         names();
+        bytesThatWere();
         DUE.close("TextTest");
     }
 
@@ -274,5 +275,30 @@ final class TextTest {
         x.undo();
         DUE.due("no place", x.letter(0, 2, 0), -1);
         DUE.due("still", x.letter(0, 1, 5), 7);
+    }
+
+    /** What the tape or an earlier net held behind the end counts no more. */
+    private static void bytesThatWere() {
+        RiverRanks x = new RiverRanks();
+        Due.tape(x, "places a;");
+        x.end(8);
+        DUE.due("net", x.net(), -1);
+        DUE.due("fault", x.fault(0), 1);
+        DUE.due("fault at", x.fault(1), 8);
+        Due.tape(x, TWO + "reach a to b long 123;");
+        x.end(31);
+        DUE.due("net", x.net(), -1);
+        DUE.due("fault", x.fault(0), 1);
+        DUE.due("fault at", x.fault(1), 31);
+        Due.net(x, "places a,b,c,d;reach a to b long 9 called x;reach b to c long 9 called y;");
+        DUE.due("net", Due.net(x, TWO + "reach b to a long 9 called z;"), 2);
+        DUE.due("places", x.has(0), 2);
+        DUE.due("rivers", x.has(2), 1);
+        DUE.due("river", x.letter(1, 0, 0), 26);
+        DUE.due("no river", x.letter(1, 1, 0), -1);
+        DUE.due("cut", x.cut(0, 4), 2);
+        DUE.due("no name", x.letter(0, 2, 0), 0);
+        DUE.due("sources", x.has(3), 1);
+        DUE.due("up", x.beyond(0, 0), Due.bits(1, 2));
     }
 }
