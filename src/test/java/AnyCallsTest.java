@@ -11,6 +11,7 @@ final class AnyCallsTest {
         for (int seed = 0; seed < 400; seed++) {
             run(new Random(seed));
         }
+        full();
         room();
         DUE.close("AnyCallsTest");
     }
@@ -39,6 +40,43 @@ final class AnyCallsTest {
             DUE.due("places", x.has(0) >= 0 && x.has(0) <= 20, true);
             DUE.due("reaches", reaches >= 0 && reaches <= 30, true);
         }
+    }
+
+    /** As many places and reaches as can be, every place and reach asked for; each run on a new object. */
+    private static void full() {
+        for (int call = 0; call < 45; call++) {
+            for (int one = -1; one <= 30; one++) {
+                RiverRanks x = Due.rivers(fullText());
+                DUE.due("places", x.has(0), 20);
+                DUE.due("reaches", x.has(1), 30);
+                int[] a = {one, 1, 1, 1, 1};
+                try {
+                    for (int other = -1; other <= 20; other++) {
+                        a[1] = other;
+                        make(x, call, a);
+                    }
+                    x.drop(one);
+                    x.undo();
+                } catch (RuntimeException e) {
+                    DUE.due("call " + call + " of " + one + " threw " + e, 1, 0);
+                }
+            }
+        }
+    }
+
+    private static String fullText() {
+        StringBuilder told = new StringBuilder();
+        for (char c = 'a'; c < 'u'; c++) {
+            told.append(c);
+        }
+        // The places are numbered from the mouth up, so that each look takes the most rounds.
+        for (char c = 'a'; c < 't'; c++) {
+            told.append(' ').append((char) (c + 1)).append('>').append(c).append("9+1");
+        }
+        for (char c = 'a'; c < 'l'; c++) {
+            told.append(' ').append((char) (c + 2)).append('>').append(c).append("7+2");
+        }
+        return told.toString();
     }
 
     private static int make(RiverRanks x, int call, int[] a) {
