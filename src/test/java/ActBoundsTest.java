@@ -476,6 +476,7 @@ final class ActBoundsTest {
 
     private static void undoes() {
         lastTwenty();
+        lastTwentyOfThirty();
         noneCanBe();
         whatStays();
         eachKindOfAct();
@@ -498,6 +499,24 @@ final class ActBoundsTest {
             BOUNDS.refused(acts + " acts, one undo more", x, Bounds.UNDO, 0, y -> Bounds.bool(y.undo()));
             DUE.due(acts + " acts, the yield stays", x.reach(0, 3), acts - can);
         }
+    }
+
+    /** The last 20 of the fullest net, each with its last reach. */
+    private static void lastTwentyOfThirty() {
+        RiverRanks x = Due.rivers("ab a>b1");
+        for (int r = 1; r < 30; r++) {
+            x.add(0, 1, 99, 99);
+        }
+        for (int i = 1; i <= 25; i++) {
+            x.gives(29, i);
+        }
+        for (int i = 24; i >= 5; i--) {
+            DUE.due("undo", x.undo(), true);
+            DUE.due("reaches", x.has(1), 30);
+            DUE.due("places", x.has(0), 2);
+            reachIs("the last", x, 29, 0, 1, 99, i, -1);
+        }
+        DUE.due("no more", x.undo(), false);
     }
 
     /** Promise 39: "false, refused (4), when none can be". */

@@ -9,7 +9,7 @@ final class AnyCallsTest {
 
     public static void main(String[] args) {
         for (int seed = 0; seed < 400; seed++) {
-            run(new Random(seed));
+            run(RandomRunsTest.source(seed));
         }
         full();
         room();

@@ -215,10 +215,37 @@ final class AskBoundsTest {
         }
     }
 
+    /** The first place and the first reach count as the others do, wherever they lie. */
+    private static void theFirstOnes() {
+        // b > a > c: place 0 lies in the middle, its reach to there is the first.
+        RiverRanks x = Due.rivers("abc b>a3+5 a>c4");
+        DUE.due("flow", x.reach(1, 5), 5);
+        DUE.due("length", x.place(2, 5), 7);
+        DUE.due("goes on", x.goes(0, 0, 0), 1);
+        DUE.due("stems", x.stems(0, 0), 1);
+        // Where the others go, what was told of them does too.
+        x.drop(0);
+        DUE.due("flow", x.reach(0, 5), 0);
+        DUE.due("from a source", x.place(2, 5), 4);
+        DUE.due("to a mouth", x.place(1, 6), 0);
+        DUE.due("up", x.beyond(2, 0), Due.bits(0));
+        // The first reach alone has the greatest rank.
+        x = Due.rivers("abcdef c>e1 a>c1 b>c1 d>e1 e>f1");
+        DUE.due("met", x.rank(4, 0, 0), 2);
+        // It is called as the main out; the other has more flow.
+        x = Due.rivers("abcd a>c1+1=x b>c1+9 c>d1=x");
+        DUE.due("by names", x.goes(0, 2, 0), 2);
+        DUE.due("by flow", x.goes(1, 0, 0), 2);
+        // It has the least BRANCH of those that run from where another stem ends.
+        x = Due.rivers("abcdef c>d1+9 a>c1+9 c>e1 f>e1+99 e>d1 b>c1");
+        DUE.due("branch", x.rank(5, 2, 0), 2);
+    }
+
     private static void ranks() {
         rankBounds();
         anyWay();
         likeOnesThatMeet();
+        theFirstOnes();
     }
 
     /** Promise 10: kinds 0 .. 3, "of these 2, 3 by a WAY (0 .. 2 ..)", "NONE when there are none such". */
@@ -516,6 +543,10 @@ final class AskBoundsTest {
         DUE.due("without reaches", none.streams(1, 0), 0);
         DUE.due("without reaches", none.streams(0, 0), -1);
         DUE.due("full", full().streams(1, 1), 30);
+        DUE.due("full", full().streams(1, 0), 1);
+        // Those that part and meet again hang together once.
+        DUE.due("once", Due.rivers("abcd a>b1 b>c1 b>c1 c>d1").streams(1, 0), 1);
+        DUE.due("once", Due.rivers("abcd b>c1 a>b1 b>c1 c>d1").streams(1, 0), 1);
         BOUNDS.nothingRefused("streams", x);
     }
 
@@ -593,6 +624,8 @@ final class AskBoundsTest {
         DUE.due("greatest", x.would(3, 0), 1);
         DUE.due("mouths", x.would(3, 1), 1);
         DUE.due("unlike", x.would(3, 2), 0);
+        RiverRanks y = Due.rivers("abcd c>d1 a>c1 b>c1");
+        DUE.due("the first one unlike", y.would(1, 2), 1);
         DUE.due("all stays", Bounds.whole(x).equals(ahead), true);
         BOUNDS.nothingRefused("would", x);
     }
@@ -652,6 +685,9 @@ final class AskBoundsTest {
         // The way found first is in the way of two others: one of its reaches is given back.
         RiverRanks back = Due.rivers("abcdef a>b1 b>e1 e>f1 a>c1 c>e1 b>d1 d>f1");
         DUE.due("one given back", back.fewest(5), 2);
+        // A reach that was given back is free again for the next way.
+        RiverRanks again = Due.rivers("abcdef c>f1 a>c1 a>f1 c>e1 e>f1 d>e1 b>e1 a>e1 c>f1");
+        DUE.due("free again", again.fewest(5), 3);
         RiverRanks z = full();
         BOUNDS.from(0, 18, "fewest of twenty", z::fewest);
         DUE.due("by two", z.fewest(18), 2);
