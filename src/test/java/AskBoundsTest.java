@@ -383,6 +383,7 @@ final class AskBoundsTest {
         DUE.due("like flows out", x.goes(1, 0, 0), 2);
         x.gives(3, 5);
         DUE.due("one more flow out", x.goes(1, 0, 0), 3);
+        DUE.due("a stem of length 1", Due.rivers("ab a>b1").stems(0, 3), 0);
         RiverRanks y = Due.rivers("abcdef c>d2 b>c2 e>f4");
         // The stem of b has the top 1, the one of e the top 2; both are 4 long.
         DUE.due("the least top", y.stems(0, 3), 1);
@@ -519,6 +520,7 @@ final class AskBoundsTest {
         streamsBounds();
         riverBounds();
         tornOrNot();
+        fullest();
     }
 
     /** Promise 20: "(1 and on)", "NONE for a rank below 1, or for others". */
@@ -547,6 +549,7 @@ final class AskBoundsTest {
         // Those that part and meet again hang together once.
         DUE.due("once", Due.rivers("abcd a>b1 b>c1 b>c1 c>d1").streams(1, 0), 1);
         DUE.due("once", Due.rivers("abcd b>c1 a>b1 b>c1 c>d1").streams(1, 0), 1);
+        DUE.due("told from the foot up", Due.rivers("abc b>c1 a>b1").streams(1, 0), 1);
         BOUNDS.nothingRefused("streams", x);
     }
 
@@ -590,6 +593,33 @@ final class AskBoundsTest {
         for (int asked = 0; asked < due.length; asked++) {
             DUE.due(what + ", " + asked, x.river(0, asked), due[asked]);
         }
+    }
+
+    /** The fullest net: 20 places, 30 reaches. */
+    private static void fullest() {
+        RiverRanks x = full();
+        int[] due = {20, 30, 1, 1, 1, 11, 0, 0, 19 * 99, 1};
+        for (int what = 0; what <= 9; what++) {
+            DUE.due("has " + what + " of the fullest", x.has(what), due[what]);
+        }
+        DUE.due("length of all", x.streams(1, 2), 19 * 99 + 11);
+        DUE.due("of the river", x.river(0, 0), 19);
+        DUE.due("not torn", x.river(0, 2), 0);
+        for (int r = 0; r < 30; r++) {
+            // Those beside another one can't be turned; the lowest one turned leaves one mouth.
+            boolean can = r >= 11 && r <= 18;
+            DUE.due("would, greatest, " + r, x.would(r, 0), can ? 1 : -1);
+            DUE.due("would, mouths, " + r, x.would(r, 1), can ? r == 18 ? 1 : 2 : -1);
+            DUE.due("would, unlike, " + r, x.would(r, 2), can ? 0 : -1);
+        }
+        // 19 places fit; the reach from place 11 leaves 9 or 10.
+        see(x, 18, 1);
+        DUE.due("tells", x.tells(0), 8);
+        DUE.due("left", x.tells(1), 10);
+        // Place 7 parts to the two mouths then.
+        x.turn(11);
+        DUE.due("no braid", x.braid(7), -1);
+        DUE.due("braid", x.braid(9), 8);
     }
 
     private static void turning() {
