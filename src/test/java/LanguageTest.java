@@ -7,7 +7,9 @@ import java.nio.file.Files;
 import java.nio.file.Path;
 import java.util.ArrayList;
 import java.util.List;
+import java.util.Map;
 import java.util.Set;
+import java.util.TreeMap;
 import java.util.TreeSet;
 import java.util.regex.Matcher;
 import java.util.regex.Pattern;
@@ -87,6 +89,8 @@ final class LanguageTest {
                 boolean fixed = Modifier.isStatic(f.getModifiers());
                 fields += fixed ? 0 : 1;
                 DUE.due("static fields are final: " + f, !fixed || Modifier.isFinal(f.getModifiers()), true);
+                DUE.due("static fields are numbers: " + f, !fixed || f.getType() == int.class, true);
+                DUE.due("the type of " + f, isOfLanguage(f.getType(), all), true);
             }
             DUE.due("at most twenty fields: " + c + " " + fields, fields <= 20, true);
             for (Method m : c.getDeclaredMethods()) {
@@ -95,12 +99,20 @@ final class LanguageTest {
         }
     }
 
+    /** Numbers, rows of numbers, own classes, rows of these. */
+    private static boolean isOfLanguage(Class<?> type, List<Class<?>> own) {
+        Class<?> part = type.isArray() ? type.getComponentType() : type;
+        return part.isPrimitive() || own.contains(part);
+    }
+
     private static void source(String text) {
         String bare = text.replaceAll("(?s)/\\*.*?\\*/", " ").replaceAll("//[^\\n]*", " ")
             .replaceAll("\"[^\"\\n]*\"", "\"\"");
         String[] banned = {"\\bthrow\\b", "\\btry\\b", "\\bcatch\\b", "\\bsynchronized\\b", "\\bassert\\b", "->", "::",
             "\\bpackage\\b", "Exact\\b", "\\bRuntimeException\\b", "\\bObject\\b", "\\bhashCode\\b", "\\btoString\\b",
-            "\\bInteger\\.(?!bitCount\\b)", "\\bMath\\.(?!min\\b|max\\b)", "\\bprotected\\b", "\\bString\\b"};
+            "\\bInteger\\.(?!bitCount\\b)", "\\bMath\\.(?!min\\b|max\\b)", "\\bprotected\\b", "\\bString\\b",
+            "\\bSystem\\.(?!arraycopy\\b)", "\\bArrays\\.(?!fill\\b)", "\\bdouble\\b", "\\bfloat\\b", "\\bstatic\\s*\\{",
+            "\\bnew \\w+\\([^)]*\\)\\s*\\{", "\\bwhile \\(true\\)", "\\bfor \\([^;]*; *;"};
         for (String word : banned) {
             DUE.due("found " + word, Pattern.compile(word).matcher(bare).find(), false);
         }
@@ -112,6 +124,67 @@ final class LanguageTest {
             DUE.due("sign at " + i, text.charAt(i) < 128, true);
         }
         longMethods(text);
+        objectsAreMadeAtFirst(bare);
+        callsAreShallow(bare);
+    }
+
+    /** All that is made stands in a field's own line, so that no call but the constructor makes it. */
+    private static void objectsAreMadeAtFirst(String bare) {
+        for (String line : bare.split("\n")) {
+            boolean field = line.matches(" +(private )?final [\\w\\[\\]]+ \\w+ = .*;");
+            DUE.due("made in: " + line.trim(), field || !line.matches(".*\\bnew\\b.*"), true);
+        }
+    }
+
+    /**
+     * Methods are told apart by class and name. A call without a name ahead of it stays in its class; one
+     * with a name may go to each other class that has such a method, so that none is overlooked.
+     */
+    private static void callsAreShallow(String bare) {
+        Map<String, StringBuilder> bodies = bodies(bare);
+        DUE.due("methods found: " + bodies.keySet(), bodies.size() > 100, true);
+        for (Method m : RiverRanks.class.getDeclaredMethods()) {
+            DUE.due("found " + m.getName(), bodies.containsKey("RiverRanks." + m.getName()), true);
+        }
+        for (String name : bodies.keySet()) {
+            int deepest = depth(name, bodies, 1);
+            DUE.due("calls open at once from " + name + " " + deepest, deepest <= 8, true);
+        }
+    }
+
+    private static Map<String, StringBuilder> bodies(String bare) {
+        Map<String, StringBuilder> bodies = new TreeMap<>();
+        StringBuilder body = new StringBuilder();
+        String owner = "";
+        for (String line : bare.split("\n")) {
+            Matcher type = Pattern.compile("\\bclass (\\w+) \\{$").matcher(line);
+            Matcher m = Pattern.compile("^(?: {4}| {8})[a-z][^=]*?(\\w+)\\([^()]*\\) \\{$").matcher(line);
+            if (type.find()) {
+                owner = type.group(1);
+            } else if (m.find() && !m.group(1).matches("if|for|while|switch")) {
+                body = bodies.computeIfAbsent(owner + "." + m.group(1), k -> new StringBuilder());
+            } else {
+                body.append(line).append('\n');
+            }
+        }
+        return bodies;
+    }
+
+    /** How many calls stand open at once; what calls itself is deeper than any bound. */
+    private static int depth(String name, Map<String, StringBuilder> bodies, int open) {
+        int deepest = open;
+        String owner = name.substring(0, name.indexOf('.'));
+        Matcher calls = Pattern.compile("(\\.?)\\b(\\w+)\\(").matcher(bodies.get(name));
+        while (open <= 20 && calls.find()) {
+            boolean elsewhere = !calls.group(1).isEmpty();
+            for (String other : bodies.keySet()) {
+                boolean same = other.startsWith(owner + ".");
+                if (other.endsWith("." + calls.group(2)) && elsewhere != same) {
+                    deepest = Math.max(deepest, depth(other, bodies, open + 1));
+                }
+            }
+        }
+        return deepest;
     }
 
     /** A method begins with a line that ends in "{" at depth 4 or 8 and ends with its "}". */
